@@ -293,6 +293,8 @@ public final class PromiseTest {
         due("its name stays", x.of(1, 6), 4);
         x.village(8);
         due("they are FREE", x.hours(1), 0);
+        due("WITH none", x.of(1, 5), -1);
+        due("AS nothing", x.of(1, 6), -1);
 
         FogKept pair = moorWith(4, 14, 0, 14, 1, 30);
         pair.set(1, 3, 3);
@@ -322,6 +324,23 @@ public final class PromiseTest {
         due("KEPT", bailiffs.hours(2), 7);
         due("turned twice, one up", bailiffs.of(2, 1), 12);
         due("heading", bailiffs.of(2, 3), 0);
+    }
+
+    /** More calls than an object is promised for, since no fewer bring HOUR to its end. */
+    private static void lastHour() {
+        promise = 12;
+        FogKept x = moorWith(3, 0);
+        for (int i = 0; i < 1666; i++) {
+            x.hours(60);
+        }
+        due("HOUR", x.now(0), 99960);
+        due("above 99999", x.hours(40), STATE);
+        due("BEYOND first", x.hours(61), BEYOND);
+        due("HOUR stays", x.now(0), 99960);
+        due("to 99999", x.hours(39), 0);
+        due("one more", x.hours(1), STATE);
+        due("HOUR at last", x.now(0), 99999);
+        due("STATE twice", x.status(4), 2);
     }
 
     private static void now() {
@@ -526,13 +545,13 @@ public final class PromiseTest {
 
     private static void begin() {
         promise = 20;
-        FogKept x = moorWith(3, 0, 3, 17, 3, 0);
+        FogKept x = moorWith(3, 4, 3, 17, 3, 4);
         x.keep(0, 2);
         x.fog(1 << 6);
         due("begin(0, 1)", x.begin(0, 1), 17);
-        due("begin(0, 2): FREE then", x.begin(0, 2), 0);
+        due("begin(0, 2): FREE then", x.begin(0, 2), 4);
         due("they stay KEPT", x.now(3), 5);
-        due("it stays", x.of(0, 1), 0);
+        due("it stays", x.of(0, 1), 4);
         due("a walker's", walkerBegins(1), 23);
         due("a walker's, up, turned, and one to the right", walkerBegins(1 << 5), 24);
         x.hours(7);
@@ -636,6 +655,7 @@ public final class PromiseTest {
         promise = 25;
         FogKept x = moorWith(3, 8, 3, 8, 3, 20, 3, 20, 3, 20, 3, 20);
         x.fog(1);
+        due("ON 0", x.best(0), 0);
         due("ON 1: all", x.best(1), 0);
         due("ON 2: most", x.best(2), 20);
         due("VILLAGE stays", x.now(5), 35);
@@ -667,6 +687,7 @@ public final class PromiseTest {
         due("120", x.feed(0, 3), 120);
         due("one too many", x.feed(0, 1), FULL);
         due("count", x.count(1), 120);
+        due("FULL twice", x.status(1), 2);
         promise = 27;
         due("wipe", x.wipe(), 120);
         due("wipe again", x.wipe(), 0);
@@ -716,6 +737,9 @@ public final class PromiseTest {
         fault("walker 5", 7);
         fault("walkerat 5", 0);
         fault("walker at", 9);
+        fault("walker atz 5", 7);
+        fault("zalker at 5", 0);
+        fault("walker bt 5", 7);
         fault("walker at 36", 10);
         fault("walker at at", 10);
         fault("walker at 5 at 6", 12);
@@ -739,7 +763,7 @@ public final class PromiseTest {
         promise = 28;
         FogKept x = new FogKept();
         due("all sorts", moorOf(x, "walker at 5;shepherd at 6 heading 3; widow at 7 hopes 15"), 3);
-        due("more", moorOf(x, "  lost at35heading2hopes9 ;  canon at 000 ;bailiff at 1"), 3);
+        due("more", moorOf(x, "  lost at35heading2hopes9 ;  canon at 000 ;bailiff at 1 heading 0 hopes 0"), 3);
         int[][] told = {{0, 5, 0, 0}, {1, 6, 3, 0}, {2, 7, 0, 15}, {3, 35, 2, 9}, {4, 0, 0, 0}, {5, 1, 0, 0}};
         for (int w = 0; w < 6; w++) {
             due("KIND", x.of(w, 0), told[w][0]);
@@ -757,6 +781,8 @@ public final class PromiseTest {
         due("FOG then", x.now(1), 1 << 23 | 1 << 5 | 1 << 7);
         due("villages", moorOf(x, "village 0;village 12"), 2);
         due("VILLAGE", x.now(5), 12);
+        due("the last village", moorOf(x, "village 35"), 1);
+        due("VILLAGE then", x.now(5), 35);
         due("two more and a 9th", moorOf(x, "lost at 1;lost at 2; lost at 3"), -1 - 21);
         due("none came", x.count(0), 6);
         due("two more", moorOf(x, "lost at 1;lost at 2"), 2);
@@ -1035,6 +1061,7 @@ public final class PromiseTest {
         freeAndKeep();
         paths();
         collisions();
+        lastHour();
         now();
         on();
         looks();
