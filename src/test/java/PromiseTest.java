@@ -466,58 +466,6 @@ public final class PromiseTest {
         due("till hour 5", held.till(1), 6);
     }
 
-    /** A moor with walkers told as kind, cell, heading, kind, cell, heading, .. */
-    private static FogKept headed(int fog, int village, int... told) {
-        FogKept x = new FogKept();
-        x.fog(fog);
-        x.village(village);
-        for (int i = 0; i < told.length; i += 3) {
-            x.walker(told[i], told[i + 1]);
-            x.set(i / 3, 3, told[i + 2]);
-        }
-        return x;
-    }
-
-    /** What comes in as many hours as are asked is found; what comes in one more is not. Found by search. */
-    private static void limits() {
-        promise = 15;
-        FogKept x = headed(8388607, 24, 3, 0, 0, 2, 32, 0, 2, 7, 0);
-        x.set(0, 4, 1);
-        x.set(1, 4, 1);
-        due("meet in 101", x.meet(0, 1), NONE);
-        promise = 18;
-        due("glad in 101", x.glad(0), NONE);
-        promise = 19;
-        due("heading in 101", x.heading(0, 1), NONE);
-        x.hours(1);
-        promise = 15;
-        due("meet in 100", x.meet(0, 1), 100);
-        promise = 18;
-        due("glad in 100", x.glad(0), 100);
-        promise = 16;
-        FogKept when = headed(16776703, 14, 4, 18, 3, 2, 20, 3, 5, 8, 2);
-        due("when in 101", when.when(0), NONE);
-        when.hours(1);
-        due("when in 100", when.when(0), 100);
-        promise = 19;
-        due("heading in 100", headed(14680063, 8, 4, 18, 0, 3, 14, 2, 1, 15, 2).heading(0, 1), 3);
-        promise = 20;
-        due("begin in 30", headed(1065504, 30, 1, 23, 3, 3, 30, 1).begin(0, 1), 6);
-        due("begin in 31", headed(64, 7, 1, 27, 1, 5, 35, 3, 0, 14, 2).begin(0, 1), NONE);
-        promise = 21;
-        FogKept kind = headed(8, 35, 3, 11, 0, 5, 29, 0, 0, 28, 1);
-        kind.set(2, 2, 35);
-        due("kind in 100", kind.kind(0), 2);
-        FogKept late = headed(16, 35, 2, 23, 0, 2, 6, 3, 0, 11, 2);
-        late.set(2, 2, 12);
-        due("kind in 101", late.kind(0), NONE);
-        promise = 22;
-        FogKept hour = headed(0, 35, 5, 13, 1, 2, 16, 1);
-        due("hour in 61", hour.hour(0, 1), NONE);
-        hour.hours(1);
-        due("hour in 60", hour.hour(0, 1), 12);
-    }
-
     private static void heading() {
         promise = 19;
         // A walker at 14 and one that is lost at 8, 15, 20, 13: one step each way.
@@ -1066,7 +1014,6 @@ public final class PromiseTest {
         on();
         looks();
         looksEnd();
-        limits();
         heading();
         begin();
         kind();
