@@ -840,10 +840,7 @@ public final class BoundaryTest {
     private static FogKept taped(int bytes) {
         FogKept x = Edge.some();
         x.wipe();
-        Edge.feedText(x, "village 9".substring(0, Math.min(9, bytes)));
-        for (int i = 9; i < bytes; i++) {
-            x.feed(' ', 1);
-        }
+        Edge.feedText(x, ("village 9" + " ".repeat(111)).substring(0, bytes));
         return x;
     }
 
@@ -1318,7 +1315,7 @@ public final class BoundaryTest {
             changeAll(x);
             due("undo() again", x.undo(), untouched.count(0));
             Edge.says(36, "how many WALKERS");
-            Edge.same("undo()", x, untouched);
+            Edge.sameMoor("undo()", x, untouched);
             Edge.says(37, "Nothing is kept: 1 if something was, else 0");
             FogKept torn = made.get();
             torn.image();

@@ -154,6 +154,18 @@ final class Edge {
         }
     }
 
+    /** As same, but of what section 1 tells alone, and of THE TAPE how long it is. */
+    static void sameMoor(String call, FogKept x, FogKept untouched) {
+        List<Long> is = new ArrayList<>();
+        List<Long> was = new ArrayList<>();
+        moorSeen(x, is);
+        moorSeen(untouched, was);
+        asked++;
+        if (!is.equals(was)) {
+            tellWrong("behind " + call + " it is\n" + is + "\nand not, as it was,\n" + was);
+        }
+    }
+
     static void refusedInAllMoors(String call, int finding, Call c) {
         for (Supplier<FogKept> moor : moors()) {
             refused(call, moor, finding, c);
