@@ -9,7 +9,9 @@ import java.nio.file.Path;
 import java.util.ArrayList;
 import java.util.Arrays;
 import java.util.List;
+import java.util.Map;
 import java.util.Set;
+import java.util.TreeMap;
 import java.util.TreeSet;
 import java.util.regex.Matcher;
 import java.util.regex.Pattern;
@@ -114,6 +116,8 @@ public final class LanguageTest {
         }
         must(!Pattern.compile("\\[\\]\\s*\\[\\]").matcher(code).find(), "an array of arrays");
         methodLengths(source);
+        callDepths(code);
+        interfaceSays(source);
     }
 
     private static void methodLengths(String source) {
@@ -128,6 +132,70 @@ public final class LanguageTest {
                 must(end - i <= 60, "long: " + lines[i].trim());
             }
         }
+    }
+
+    /** Which methods each method calls, by names, which must differ from each other. */
+    private static Map<String, Set<String>> callsOf(String code) {
+        Map<String, String> bodies = new TreeMap<>();
+        Matcher heads = Pattern.compile("(?m)^( +)(?:(?:public|private|static|final) )*[\\w\\[\\]]+ (\\w+)\\([^)]*\\) \\{$").matcher(code);
+        while (heads.find()) {
+            int end = code.indexOf("\n" + heads.group(1) + "}", heads.end());
+            must(bodies.put(heads.group(2), code.substring(heads.end(), end)) == null, "two methods " + heads.group(2));
+        }
+        Map<String, Set<String>> calls = new TreeMap<>();
+        for (Map.Entry<String, String> body : bodies.entrySet()) {
+            Set<String> called = new TreeSet<>();
+            Matcher call = Pattern.compile("\\b(\\w+)\\(").matcher(body.getValue());
+            while (call.find()) {
+                if (bodies.containsKey(call.group(1))) {
+                    called.add(call.group(1));
+                }
+            }
+            calls.put(body.getKey(), called);
+        }
+        return calls;
+    }
+
+    private static int depth(String method, Map<String, Set<String>> calls, Set<String> open) {
+        if (!open.add(method)) {
+            must(false, method + " calls itself");
+            return 1;
+        }
+        int below = 0;
+        for (String called : calls.get(method)) {
+            below = Math.max(below, depth(called, calls, open));
+        }
+        open.remove(method);
+        return below + 1;
+    }
+
+    private static void callDepths(String code) {
+        Map<String, Set<String>> calls = callsOf(code);
+        must(calls.size() > 38, "only " + calls.size() + " methods found");
+        for (String method : calls.keySet()) {
+            int depth = depth(method, calls, new TreeSet<>());
+            must(depth <= 8, method + " goes " + depth + " deep");
+        }
+    }
+
+    /** The document's "Ahead of the calls .. the interface says" stands there, with these calls behind it. */
+    private static void interfaceSays(String source) throws Exception {
+        String doc = Files.readString(Path.of("../shared/DOC.md"), StandardCharsets.UTF_8);
+        Matcher m = Pattern.compile("Ahead of the calls ([^\n]*) the interface says: (---- [^\n.]*)\\.").matcher(doc);
+        int many = 0;
+        while (m.find()) {
+            int from = source.indexOf("    // " + m.group(2) + "\n");
+            int to = from < 0 ? -1 : source.indexOf("    // ----", from + 1);
+            must(from >= 0 && to >= 0, "nothing says " + m.group(2));
+            List<String> behind = new ArrayList<>();
+            Matcher call = Pattern.compile("(?m)^    public \\w+ (\\w+)\\(").matcher(to < 0 ? "" : source.substring(from, to));
+            while (call.find()) {
+                behind.add(call.group(1));
+            }
+            must(behind.equals(Arrays.asList(m.group(1).replace("`", "").split(", "))), "behind " + m.group(2) + " come " + behind);
+            many++;
+        }
+        must(many == 7, "the interface says " + many + " things");
     }
 
     private static FogKept crowded() {
